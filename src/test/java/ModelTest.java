@@ -96,7 +96,31 @@ public final class ModelTest {
 
     // ---- calls
 
+    /** Many CLIFFS of few OWNERS, LEAVES for all day: ECHOES that come far. */
+    private void settleForEchoes() {
+        valley(3 + random.nextInt(4), 2 + random.nextInt(5));
+        int cells = plain.s.w * plain.s.h;
+        for (int cell = 0; cell < cells; cell++) {
+            put(1, cell, random.nextInt(2 + run % 3));
+        }
+        for (int i = 0; i < 8; i++) {
+            put(0, random.nextInt(cells), i < 6 ? 2 : 1);
+        }
+        for (int i = 0; i < 6; i++) {
+            same("maker of " + i, air.maker((i + run) % 6, i * 7 % cells, i % 3), plain.maker((i + run) % 6, i * 7 % cells, i % 3));
+        }
+        for (int i = 0; i < 8; i++) {
+            int loud = 1 + random.nextInt(20);
+            int to = random.nextInt(4);
+            same("leave of " + i, air.leave(i % 6, to, 0, 23, loud), plain.leave(i % 6, to, 0, 23, loud));
+        }
+    }
+
     private void settle() {
+        if (run % 4 == 1) {
+            settleForEchoes();
+            return;
+        }
         if (random.nextInt(10) > 0) {
             valley(1 + random.nextInt(6), 1 + random.nextInt(6));
             if (random.nextInt(3) > 0) {

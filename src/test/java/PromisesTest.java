@@ -149,6 +149,9 @@ public final class PromisesTest {
         due("count(1)", x.count(1), 1);
         due("put(0, 6, 0)", x.put(0, 6, 0), -2);
         due("put(0, 5, 0)", x.put(0, 5, 0), 0);
+        due("valley(1, 6)", x.valley(1, 6), 1);
+        due("count(0)", x.count(0), 1);
+        due("count(1)", x.count(1), 6);
         int[][] bad = {{0, 1}, {1, 0}, {7, 1}, {1, 7}, {-1, 3}, {3, Integer.MIN_VALUE}, {Integer.MAX_VALUE, 3}};
         for (int[] b : bad) {
             long before = x.digest();
@@ -401,6 +404,7 @@ public final class PromisesTest {
         due("from(0): the IMAGE stays", x.from(0), 1);
         due("let(3, -1)", x.let(3, -1), 4);
         tell(x, "valley 1 1;");
+        due("count(0)", x.count(0), 1);
         tell(x, "valley1 6;fee5 99;fee 5 0;  ");
         due("fee(5, 1): the last one", x.fee(5, 1), 0);
         tell(x, "valley 6 6;maker 0 35 5;maker 0 0 0;maker 0 0 0;maker 0 0 0;maker 0 0 0;maker 0 0 0;");
@@ -429,6 +433,12 @@ public final class PromisesTest {
         fault("valleys 2 2;", 0);
         fault("Valley 2 2;", 0);
         fault("vaLley 2 2;", 0);
+        fault("galley 2 2;", 0);
+        fault("vally 2 2;", 0);
+        fault("valleyz 2 2;", 0);
+        fault("avalley 2 2;", 0);
+        fault("valley 2 2;bir 0 0;", 11);
+        fault("valley 2 2;ground 0 0;zee 0 0;", 22);
         fault("3 valley 2 2;", 0);
         fault("valley 0 2;", 7);
         fault("valley 7 2;", 7);
@@ -451,6 +461,9 @@ public final class PromisesTest {
         fault("valley 2 2;air 0 6;", 17);
         fault("valley 2 2;fee 6 0;", 15);
         fault("valley 2 2;fee 0 100;", 17);
+        fault("valley 2 2;fee 0 a;", 17);
+        fault("valley 2 2;fee 0 1a;", 18);
+        fault("valley 2 2;7 fee 0 1;", 11);
         fault("valley 2 2;maker 6 0 0;", 17);
         fault("valley 2 2;maker 0 4 0;", 19);
         fault("valley 2 2;maker 0 0 6;", 21);
@@ -494,6 +507,9 @@ public final class PromisesTest {
         row(x, 0, 2, 23, 2, 1, 0, 1, 0, 0, 0, 0, 0);
         row(x, 0, 1, 0, 1, 0, 0, 0, 0, 0, 0, 0, 0);
         due("heard(0, 20, 0, 8)", x.heard(0, 20, 0, 8), 16);
+        x.valley(1, 4);
+        x.maker(0, 1, 0);
+        row(x, 0, 3, 0, 2, 3, 2, 1);
         // Rows do not run over into one another.
         x.valley(3, 2);
         x.maker(0, 2, 0);
@@ -593,6 +609,21 @@ public final class PromisesTest {
         LentAir h = told("valley 5 1;ground 1 2;ground 3 1;air 1 1;air 2 1;air 3 1;air 4 1;maker 0 0 0;leave 0 1 0 23 9;");
         row(h, 0, 11, 0, 11, 0, 0, 0, 0);
         row(h, 0, 10, 0, 10, 9, 8, 7, 0);
+        // ECHOES of CLIFFS of three OWNERS, each into a HEDGE of his own AIR below it, where no WHISPER comes.
+        LentAir o = new LentAir();
+        o.valley(5, 2);
+        int[] owners = {4, 1, 4, 2, 0, 5, 1, 5, 2, 0};
+        for (int cell = 0; cell < 10; cell++) {
+            o.put(1, cell, owners[cell]);
+            o.put(0, cell, cell == 1 || cell == 3 || cell == 4 ? 2 : cell > 4 ? 1 : 0);
+        }
+        o.maker(3, 0, 4);
+        o.leave(0, 1, 0, 0, 18);
+        o.leave(0, 2, 0, 0, 14);
+        o.leave(0, 0, 0, 0, 20);
+        row(o, 0, 20, 0, 20, 18, 16, 14, 12, 0, 8, 0, 6, 5);
+        o.take(1);
+        row(o, 0, 20, 0, 20, 18, 16, 0, 0, 0, 8, 0, 0, 0);
         // ECHOES give none: the CLIFF in CELL 3 is heard by the ECHO alone.
         LentAir e = told("valley 6 1;ground 1 2;ground 3 2;air 1 1;air 2 1;air 3 1;air 4 3;maker 2 0 0;maker 0 0 1;"
             + "leave 0 1 0 0 18;leave 1 3 0 0 20;");
@@ -656,6 +687,9 @@ public final class PromisesTest {
         due("trespass(2, 9, 0, -1)", x.trespass(2, 9, 0, -1), 0);
         due("trespass(2, 9, 0, 0)", x.trespass(2, 9, 0, 0), -5);
         due("status(0): not so many is no refusal", x.status(0), 0);
+        LentAir zero = told("valley 2 1;air 0 1;maker 0 1 0;");
+        due("trespass(0, 2, 0, 0)", zero.trespass(0, 2, 0, 0), 0);
+        due("trespass(0, 2, 0, 1)", zero.trespass(0, 2, 0, 1), -5);
         // What comes there by an ECHO alone is trespassed all the same.
         LentAir y = told("valley 4 1;ground 1 2;air 1 1;air 2 2;air 3 2;maker 2 0 0;maker 0 0 1;leave 0 1 0 23 20;"
             + "leave 1 2 0 23 20;");
@@ -714,6 +748,19 @@ public final class PromisesTest {
         z.take(1);
         due("heard(0, 9, 0, 34)", z.heard(0, 9, 0, 34), 3);
         due("mend(0, 9, 0)", z.mend(0, 9, 0), 1L << 35);
+        // The CLIFF of CELL 0 is bit 0; two carry one CELL each, a third the CELL of both.
+        LentAir c = told("valley 6 1;ground 0 2;ground 3 2;air 0 1;air 1 2;air 3 1;air 4 2;maker 5 2 0;maker 0 0 1;");
+        due("mend(0, 9, 0): THUNDER is heard everywhere", c.mend(0, 9, 0), 0);
+        LentAir d = told("valley 6 1;ground 0 2;ground 2 2;ground 5 1;air 3 3;air 2 1;maker 2 1 0;maker 0 0 1;maker 0 0 0;"
+            + "leave 0 1 0 0 20;leave 1 3 0 0 9;");
+        due("carried(0, 13, 0, -1)", d.carried(0, 13, 0, -1), 1);
+        due("mend(0, 13, 0)", d.mend(0, 13, 0), 4);
+        d.leave(2, 1, 0, 0, 9);
+        d.leave(2, 3, 0, 0, 9);
+        due("mend(0, 13, 0): the ECHO of CELL 0 comes to 3, too", d.mend(0, 13, 0), 5);
+        d.put(0, 5, 2);
+        due("mend(0, 13, 0): the CLIFF in CELL 5 is not heard", d.mend(0, 13, 0), 5);
+        due("carried(0, 13, 0, 0)", d.carried(0, 13, 0, 0), 3);
         // 8 CLIFFS may be, 9 not, wherever they are.
         LentAir n = new LentAir();
         n.maker(0, 12, 0);
@@ -946,6 +993,12 @@ public final class PromisesTest {
         x.leave(2, 1, 7, 7, 2);
         way(x, 0, 4, 7, 3, 2);
         way(x, 0, 4, 8, -1, -1);
+        // A CRY of 1 is heard in his own CELL; the least one behind him may be number 0.
+        x.cry(1, 1);
+        way(x, 1, 3, 0, 2, 3);
+        way(x, 1, 0, 0, 3, 3);
+        x.cry(2, 20);
+        way(x, 2, 0, 0, 2, 0);
         // By an ECHO: the WHISPER's own way does not come into the HEDGE.
         LentAir e = told("valley 3 1;ground 1 2;ground 2 1;maker 3 0 0;maker 0 2 0;");
         way(e, 0, 1, 0, -1, -1);
@@ -1046,6 +1099,18 @@ public final class PromisesTest {
         LentAir e = told("valley 4 1;ground 1 2;ground 2 1;ground 3 2;maker 3 0 0;");
         due("peal(0, 0, 0): ECHOES count", e.peal(0, 0, 0), 6);
         due("peal(0, 0, 1)", e.peal(0, 0, 1), 3);
+        // A way of 20 CELLS and more in his own AIR: only 20 comes to the 20th.
+        LentAir far = new LentAir();
+        far.valley(6, 6);
+        for (int cell : new int[] {6, 7, 8, 9, 10, 19, 20, 21, 22, 23}) {
+            far.put(1, cell, 1);
+        }
+        for (int cell : new int[] {30, 31, 32, 33, 34}) {
+            far.put(1, cell, 1);
+        }
+        far.maker(0, 0, 0);
+        due("peal(0, 0, 0)", far.peal(0, 0, 0), 20);
+        due("peal(0, 0, 1)", far.peal(0, 0, 1), 20);
         LentAir one = told("valley 1 1;maker 0 0 0;");
         due("peal(0, 23, 0): of like ones the least", one.peal(0, 23, 0), 1);
         due("peal(0, 23, 1)", one.peal(0, 23, 1), 1);
