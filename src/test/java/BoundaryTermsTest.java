@@ -5,6 +5,7 @@ public final class BoundaryTermsTest {
     private static final int CALLS = 512;
 
     public static void main(String[] args) throws IOException {
+        Watch.start();
         whatItIs();
         Boundary.part("Terms");
         TermsOfValley.all();

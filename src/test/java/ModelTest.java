@@ -26,6 +26,7 @@ public final class ModelTest {
     }
 
     public static void main(String[] args) {
+        Watch.start();
         for (int run = 0; run < RUNS && wrong < 20; run++) {
             new ModelTest(run).play();
         }

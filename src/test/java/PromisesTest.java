@@ -4,6 +4,7 @@ public final class PromisesTest {
     private static int promise = 0;
 
     public static void main(String[] args) {
+        Watch.start();
         newObject();
         valley();
         put();

@@ -4,6 +4,13 @@ import java.util.TreeSet;
 
 /** The sentences of "Terms" on THUNDER by a SEED, UNDO, IMAGES, STATUS and what is refused. */
 final class TermsOfState {
+    private static final Boundary.Call MAKER = (x, n) -> x.maker(n[0], n[1], n[2]);
+    private static final Boundary.Call LEAVE = (x, n) -> x.leave(n[0], n[1], n[2], n[3], n[4]);
+    private static final Boundary.Call TYPE = (x, n) -> x.type(n[0]);
+    private static final Boundary.Call FROM = (x, n) -> x.from(n[0]);
+    private static final Boundary.Call MEND = (x, n) -> x.mend(n[0], n[1], n[2]);
+    private static final Boundary.Call UNDO = (x, n) -> x.undo();
+
     private TermsOfState() {
     }
 
@@ -267,18 +274,18 @@ final class TermsOfState {
             status(x, 2, 2, 4);
         });
         Boundary.asks("Refused, changing nothing but STATUS, the first of: BAD -2 a number is not as told; NO -3 as told; FULL -4", () -> {
-            Boundary.refusedIn("full()", Boundary::full, "maker", (x, n) -> x.maker(n[0], n[1], n[2]), -4, Boundary.FULL, 0, 0, 0);
-            Boundary.refusedIn("full()", Boundary::full, "leave", (x, n) -> x.leave(n[0], n[1], n[2], n[3], n[4]), -4, Boundary.FULL, 0, 0, 0, 0, 1);
-            Boundary.refusedIn("full()", Boundary::full, "type", (x, n) -> x.type(n[0]), -4, Boundary.FULL, 59);
-            Boundary.refusedIn("full()", Boundary::full, "from", (x, n) -> x.from(n[0]), -3, Boundary.NO, 1);
-            Boundary.refusedIn("full()", Boundary::full, "mend", (x, n) -> x.mend(n[0], n[1], n[2]), -20, Boundary.NO, 0, 1, 0);
-            Boundary.refusedIn("new", LentAir::new, "undo", (x, n) -> x.undo(), -3, Boundary.NO);
+            inFull("maker", MAKER, -4, Boundary.FULL, 0, 0, 0);
+            inFull("leave", LEAVE, -4, Boundary.FULL, 0, 0, 0, 0, 1);
+            inFull("type", TYPE, -4, Boundary.FULL, 59);
+            inFull("from", FROM, -3, Boundary.NO, 1);
+            inFull("mend", MEND, -20, Boundary.NO, 0, 1, 0);
+            Boundary.refusedIn("new", LentAir::new, "undo", UNDO, -3, Boundary.NO);
             // BAD is ahead of FULL, and of NO.
-            Boundary.refusedIn("full()", Boundary::full, "maker", (x, n) -> x.maker(n[0], n[1], n[2]), -2, Boundary.BAD, 6, 0, 0);
-            Boundary.refusedIn("full()", Boundary::full, "leave", (x, n) -> x.leave(n[0], n[1], n[2], n[3], n[4]), -2, Boundary.BAD, 0, 0, 0, 0, 21);
-            Boundary.refusedIn("full()", Boundary::full, "type", (x, n) -> x.type(n[0]), -2, Boundary.BAD, 128);
-            Boundary.refusedIn("full()", Boundary::full, "from", (x, n) -> x.from(n[0]), -2, Boundary.BAD, 2);
-            Boundary.refusedIn("full()", Boundary::full, "mend", (x, n) -> x.mend(n[0], n[1], n[2]), -10, Boundary.BAD, 0, 0, 0);
+            inFull("maker", MAKER, -2, Boundary.BAD, 6, 0, 0);
+            inFull("leave", LEAVE, -2, Boundary.BAD, 0, 0, 0, 0, 21);
+            inFull("type", TYPE, -2, Boundary.BAD, 128);
+            inFull("from", FROM, -2, Boundary.BAD, 2);
+            inFull("mend", MEND, -10, Boundary.BAD, 0, 0, 0);
         });
         Boundary.asks("(where others are told they count as these).", () -> {
             LentAir x = Boundary.full();
@@ -300,6 +307,10 @@ final class TermsOfState {
         Boundary.says("Ahead of the calls `ears`, `buy`, `who`, `still`, `cry`, `criers` the interface says: ---- leaves, ears.");
         Boundary.says("Ahead of the calls `let`, `liable`, `rings`, `first`, `peal`, `thunder` the interface says: ---- lets, hours, thunder.");
         Boundary.says("Ahead of the calls `image`, `from`, `status`, `count`, `digest` the interface says: ---- what there is.");
+    }
+
+    private static void inFull(String name, Boundary.Call call, long answer, int reason, int... numbers) {
+        Boundary.refusedIn("full()", Boundary::full, name, call, answer, reason, numbers);
     }
 
     private static void status(LentAir x, int bad, int no, int full) {
