@@ -248,7 +248,8 @@ public final class LentAir {
             return refuse(BAD);
         }
         int inHour = leavesIn(hour);
-        // To take back more never makes a CELL hear more: if all is not enough, nothing is.
+        // To take back more may make an ECHO less LOUD, and so let it come further. But by no LEAVE at all it comes
+        // only into AIR of the CLIFF's OWNER, the further the LOUDER it is: if all is not enough, nothing is.
         if (!isStill(loud, hour, cell, inHour)) {
             return NONE;
         }

@@ -131,6 +131,16 @@ final class TermsOfAnswers {
             y.ears(2, 2);
             bought("by no ECHO", y, 5, 0, 0, 0);
             bought("by an ECHO", y, 6, 0, -1, -1);
+            // The LEAVE that is bought makes the ECHO too LOUD for CELL 1.
+            LentAir z = tooLoudAnEcho();
+            z.put(0, 0, 0);
+            z.ears(1, 2);
+            bought("with the LEAVE", z, 20, 0, 2, 0);
+            z.take(0);
+            due("heard(0, 20, 0, 1)", z.heard(0, 20, 0, 1), 5);
+            bought("without it", z, 20, 0, 2, 2);
+            z.ears(1, 1);
+            bought("where CELL 1 must hear", z, 20, 0, 1, 0);
         });
         Boundary.asks("the least COST then;", () -> {
             bought("above is dearer", twoWays(10, 2, 3), 9, 0, 7, 12);
@@ -180,6 +190,15 @@ final class TermsOfAnswers {
             }
             bought("with 8 LEAVES", x, 9, 4, 3, 12);
         });
+    }
+
+    /**
+     * A WHISPER from CELL 4 comes to the CLIFF in CELL 2 by LEAVE 0 as 16, without it as 12; its ECHO, of 8 or 6, may be 5
+     * in CELL 1, a HEDGE, by LEAVE 1. The ECHO of the CLIFF in CELL 0 comes there by LEAVE 0.
+     */
+    private static LentAir tooLoudAnEcho() {
+        return Boundary.told("valley 5 2;ground 0 2;ground 1 1;ground 2 2;air 1 1;air 2 2;air 3 1;maker 3 4 0;maker 0 2 2;"
+            + "leave 0 1 0 23 20;leave 1 1 0 23 5;leave 0 2 0 23 20;");
     }
 
     /** In a row of 6 CELLS: 0 in CELL 0, 1 in 2, 2 in 4, 3 in 2 as 1 is, 4 in 5; each cries as 3: two CELLS far. */
@@ -366,6 +385,16 @@ final class TermsOfAnswers {
             due("still(6, 9, 2): by an ECHO", e.still(6, 9, 2), 1);
             due("still(6, 10, 2): by none", e.still(6, 10, 2), 0);
             due("still(5, 9, 2): the ECHO comes not so far", e.still(5, 9, 2), 0);
+            // Without LEAVE 0 the ECHO of CELL 0 is gone, but that of CELL 2 is no longer too LOUD.
+            LentAir t = tooLoudAnEcho();
+            due("heard(0, 20, 0, 1)", t.heard(0, 20, 0, 1), 3);
+            due("still(20, 0, 1): LEAVE 0 is not enough", t.still(20, 0, 1), 3);
+            t.take(0);
+            due("heard(0, 20, 0, 1) without LEAVE 0", t.heard(0, 20, 0, 1), 5);
+            due("still(20, 0, 1) without LEAVE 0", t.still(20, 0, 1), 1);
+            t.undo();
+            t.put(0, 0, 0);
+            due("still(20, 0, 1): all LEAVES stay", t.still(20, 0, 1), 0);
             due("still() without MAKERS", new LentAir().still(20, 23, 24), 0);
         });
         Boundary.asks("none (a MAKER is heard in his own CELL always).", () -> {
